@@ -232,7 +232,7 @@ public final class RuleArena {
             for (int shift = TOP; shift >= 0; shift -= WIDTH) {
                 int c = term >>> shift & MASK;
                 if (isVariable(c)) {
-                    found |= 1 << c - 'U';
+                    found |= 1 << (c - 'U');
                 }
             }
             return found;
@@ -246,8 +246,8 @@ public final class RuleArena {
                 int c = term >>> shift & MASK;
                 if (isVariable(c)) {
                     int code = c - 'U' + 1;
-                    int bit = 1 << c - 'U';
-                    planned += ((left & bit) != 0 ? code : code + VARIABLES) - c << shift;
+                    int bit = 1 << (c - 'U');
+                    planned += (((left & bit) != 0 ? code : code + VARIABLES) - c) << shift;
                     left &= ~bit;
                 }
             }
@@ -265,7 +265,7 @@ public final class RuleArena {
                 return NONE;
             }
             if (i % 2 == 0) {
-                return term >>> TOP - WIDTH * (i / 2) & MASK;
+                return term >>> (TOP - WIDTH * (i / 2)) & MASK;
             }
             if (i == 1) {
                 return '(';
@@ -314,7 +314,7 @@ public final class RuleArena {
             int from = 0;
             int to = size;
             while (from < to) {
-                int middle = from + to >>> 1;
+                int middle = (from + to) >>> 1;
                 if (row[middle] < term) {
                     from = middle + 1;
                 } else {
@@ -404,7 +404,7 @@ public final class RuleArena {
                 return 0;
             }
             int name = 'a' + (relation - NAMES) / (NAME_TERMS + 1);
-            return name << Term.TOP | a >>> Term.WIDTH | b >>> 2 * Term.WIDTH | c >>> 3 * Term.WIDTH;
+            return name << Term.TOP | a >>> Term.WIDTH | b >>> (2 * Term.WIDTH) | c >>> (3 * Term.WIDTH);
         }
 
         void plan(int unbound) {
@@ -924,7 +924,7 @@ public final class RuleArena {
 
         private static int slotOf(int of, int first, int second, int third) {
             int mixed = ((of * 31 + first) * 31 + second) * 31 + third;
-            return mixed * 0x9E3779B1 >>> 24;
+            return (mixed * 0x9E3779B1) >>> 24;
         }
 
         /** Takes back all facts but the oldest ones. */
@@ -1097,7 +1097,7 @@ public final class RuleArena {
             for (int shift = Term.TOP - Term.WIDTH; shift >= 0 && (term & Term.PARTS) != 0; shift -= Term.WIDTH) {
                 int part = term >>> shift & Term.MASK;
                 if (part <= Term.BOUND_LAST) {
-                    filled += (bound[part] >>> Term.TOP) - part << shift;
+                    filled += ((bound[part] >>> Term.TOP) - part) << shift;
                 }
             }
             return filled;
@@ -1111,7 +1111,7 @@ public final class RuleArena {
             int top = term >>> Term.TOP;
             if (top <= Term.FRESH_LAST) {
                 bound[top + Term.VARIABLES] = ground;
-                return (flat << 1 >>> top & 1) == 0 || (ground & Term.PARTS) == 0;
+                return (flat & 1 << (top - 1)) == 0 || (ground & Term.PARTS) == 0;
             }
             if (top <= Term.BOUND_LAST) {
                 return bound[top] == ground;
@@ -1280,7 +1280,7 @@ public final class RuleArena {
                 outcome = game.look(states[s]) ? judge(game, s) : TOO_MUCH;
                 // At an end no joint move is made, so none is gone through there.
                 int firsts = game.end ? 0 : game.moves.size;
-                for (int a = 0; a < firsts; a++) {
+                for (int a = 0; a < firsts && outcome == SOUND; a++) {
                     for (int b = 0; b < game.otherMoves.size && outcome == SOUND; b++) {
                         outcome = game.lead(a, b) && note(s, a << 8 | b, game.next) ? SOUND : TOO_MUCH;
                     }

@@ -5,11 +5,12 @@ final class Sheets {
     private final Random random;
 
     Sheets(long seed) {
-        random = new Random(seed);
+        // Neighbouring seeds begin alike, so they are spread.
+        random = new Random(seed * 0x9E3779B97F4A7C15L);
     }
 
     String next() {
-        switch (random.nextInt(8)) {
+        switch (random.nextInt(10)) {
             case 0:
                 return cut(mutate(grammatical(), 1 + random.nextInt(3)));
             case 1:
@@ -22,6 +23,10 @@ final class Sheets {
             case 5:
                 return graph();
             case 6:
+                return crowd();
+            case 7:
+                return chase();
+            case 8:
                 return random.nextInt(3) == 0 ? mutate(subsets(), 1) : subsets();
             default:
                 return random.nextBoolean() ? without(graph()) : without(countdown());
@@ -217,6 +222,39 @@ final class Sheets {
         out.append(random.nextInt(4) == 0 ? "N(f(U,V)):T(U),D(a,V)." : "");
         out.append(random.nextInt(4) == 0 ? "w(U,V,W):T(U),T(V),T(W)." : "");
         out.append("E:~l.G(a,").append(pick("0358")).append("):E.G(b,").append(pick("0358")).append(").");
+        return cut(out.toString());
+    }
+
+    /** Counts near the limits: of facts, of a product, of a state's terms. */
+    private String crowd() {
+        StringBuilder out = new StringBuilder(random.nextBoolean() ? "R(a).R(b).L(a,0).L(b,0)." : "R(a).L(U,0):R(U).R(b).");
+        int things = 4 + random.nextInt(8);
+        for (int k = 0; k < things; k++) {
+            out.append("k(" + pick("0123456789abc") + ").");
+        }
+        String[] more = {"z:k(U),k(V),k(W),k(X),k(Y).", "z:k(U),k(V),k(W),w(X,Y).", "w(U,V):k(U),k(V).", "x(U,V):k(U),k(V).",
+            "y(U,0):k(U).", "y(U,1):k(U).", "N(f(U,V)):k(U),k(V),U#V.", "N(f(U)):k(U),T(U).", "I(f(U,V)):k(U),k(V),~j(U).",
+            "j(0).", "j(U):k(U),~y(U,0).", "u(U,V):T(U),k(V).", "v(U,V,W):T(U),D(V,W).", "q(U,V):D(W,X),k(U),k(V).", "I(U):k(U).",
+            "N(U):k(U).", "z:k(U),k(V),k(W),k(X),k(Y),e.", "z:w(U,V),w(V,U),k(W),~e.", "w(V,U):w(U,V)."};
+        for (int k = 1 + random.nextInt(6); k > 0; k--) {
+            String rule = more[random.nextInt(more.length)];
+            out.append(out.length() + rule.length() <= 240 ? rule : "");
+        }
+        return cut(out.toString());
+    }
+
+    /** Both move at once, or in turn, on a line; it ends when they meet. */
+    private String chase() {
+        int last = 2 + random.nextInt(4);
+        StringBuilder out = new StringBuilder("R(a).R(b).I(a(0)).I(b(" + last + ")).");
+        for (int k = 0; k < last; k++) {
+            out.append("s(" + k + "," + (k + 1) + ").");
+        }
+        out.append("L(a,V):T(a(U)),s(U,V).L(b,V):T(b(U)),s(V,U).");
+        out.append(random.nextBoolean() ? "L(b,U):T(b(U))." : "");
+        out.append(random.nextInt(3) > 0 ? "L(a,U):T(a(U))." : "");
+        out.append("N(a(U)):D(a,U).N(b(U)):D(b,U).E:T(a(U)),T(b(V)),~u(U,V).u(U,V):s(U,V).u(U,V):u(U,W),s(W,V).");
+        out.append(out.length() < 210 ? "G(a,V):T(a(V)).G(b,8)." : "");
         return cut(out.toString());
     }
 }
