@@ -715,11 +715,12 @@ public final class RuleArena {
         }
 
         void trace() {
-            for (int i = 0; i < size; i++) {
-                for (int k = 0; k < size; k++) {
+            for (int k = 0; k < size; k++) {
+                int heads = headsIn(rules[k]);
+                for (int i = 0; i < size; i++) {
                     if (rules[k].head.relation == rules[i].head.relation) {
                         alike[i] |= 1 << k;
-                        under[i] |= headsIn(rules[k]);
+                        under[i] |= heads;
                     }
                 }
             }

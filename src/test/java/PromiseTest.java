@@ -326,6 +326,32 @@ public final class PromiseTest {
         due(7, "x", () -> flat.facts('x', 1), 1);
         due(7, "y", () -> flat.facts('y', 0), 1);
         due(7, "z", () -> flat.facts('z', 1), 1);
+        RuleArena odd = arena("p(0).p(f(1)).q(U):f(U)#a,p(U).r(U):p(U),~t(0,f(0,0,U)).y:f(a)#g(a).x:g(a)#g(a).z:z#y.w:z#z."
+                + "v:g(a,b)#g(a,c).u:g(a,b,c)#g(a,b,c).s:f#f(a).");
+        due(7, "U stands in a compound of the first literal", () -> odd.facts('q', 1), 1);
+        due(7, "U stands in the last part of a compound", () -> odd.facts('r', 1), 1);
+        for (char c : "yxzwvus".toCharArray()) {
+            due(7, "unlike: " + c, () -> odd.facts(c, 0), "xwu".indexOf(c) < 0 ? 1 : 0);
+        }
+        RuleArena six = arena("p(1,2,3).p(4,5,6).q(f(U,V,W),g(Z,Y,X)):p(U,V,W),p(X,Y,Z),U#X.r(Z,Y,X):q(f(X,Y,Z),U)."
+                + "s(Z):q(f(X,Y,Z),g(U,V,W)),p(X,Y,Z),p(W,V,U).t(Z):p(X,Y,Z),q(f(X,Y,Z),g(U,V,W)),W#4.u(Z,Y):p(X,Y,Z).v(Z):p(Z,V,W).");
+        due(7, "six variables", () -> six.facts('q', 2), 2);
+        due(7, "three parts", () -> six.facts('r', 3), 2);
+        due(7, "six again", () -> six.facts('s', 1), 2);
+        due(7, "one of two", () -> six.facts('t', 1), 1);
+        due(7, "Z and Y", () -> six.facts('u', 2), 2);
+        due(7, "Z alone", () -> six.facts('v', 1), 2);
+        // U is bound by v when w is asked, so its compounds are compared part by part.
+        RuleArena part = arena("v(1).v(2).w(f(1),a).w(f(3),a).w(f(1,2),b).w(g(2),c).w(1,d).w(f(2),e).w(f(2),f).r(V):v(U),w(f(U),V)."
+                + "s(V):v(U),w(f(U,X),V).t(U):w(f(U,X),V),v(X).");
+        due(7, "r", () -> part.facts('r', 1), 3);
+        due(7, "s", () -> part.facts('s', 1), 1);
+        due(7, "t", () -> part.facts('t', 1), 1);
+        // 0 -> 1 -> 2 -> 0 and 2 -> 3; y never comes back to where it began, z never goes over 1.
+        RuleArena tests = arena("e(0,1).e(1,2).e(2,0).e(2,3).y(U,V):e(U,V).y(U,V):U#V,y(U,W),e(W,V).z(U,V):e(U,V)."
+                + "z(U,V):z(U,W),~b(W),z(W,V).b(1).");
+        due(7, "a circle of rules with #", () -> tests.facts('y', 2), 9);
+        due(7, "a circle of rules with ~", () -> tests.facts('z', 2), 8);
         RuleArena twice = arena("p(0,0).p(0,1).p(f(0),0).p(f(1),0).q(U):p(U,U).r(U):p(f(U),U).s(f(U,U)):p(U,V).t(V):p(U,V),U#V.");
         due(7, "q(U):p(U,U)", () -> twice.facts('q', 1), 1);
         due(7, "r(U):p(f(U),U)", () -> twice.facts('r', 1), 1);

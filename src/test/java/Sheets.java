@@ -113,13 +113,13 @@ final class Sheets {
         int rules = random.nextInt(10) == 0 ? 20 + random.nextInt(7) : 1 + random.nextInt(6);
         boolean small = rules > 10;
         for (int r = 0; r < rules; r++) {
-            out.append(small ? atom("pq", "ab").substring(0, 1) : atom("pqrRITNDLGE", "UVab01"));
+            out.append(small ? atom("pq", "ab").substring(0, 1) : atom("pqrRITNDLGE", "UZab01"));
             int literals = random.nextInt(3) > 0 ? 0 : 1 + random.nextInt(small ? 2 : 6);
             for (int k = 0; k < literals; k++) {
                 out.append(k == 0 ? ':' : ',');
                 int kind = random.nextInt(4);
                 out.append(kind == 0 ? "~" : "");
-                out.append(kind == 1 ? term("UVab01") + "#" + term("UVab01") : atom("pqrTDLGERIN", "UVab01"));
+                out.append(kind == 1 ? term("UZab01") + "#" + term("UZab01") : atom("pqrTDLGERIN", "UZab01"));
             }
             out.append('.');
         }
@@ -154,7 +154,7 @@ final class Sheets {
         StringBuilder body = new StringBuilder();
         StringBuilder seen = new StringBuilder("01");
         for (int k = random.nextInt(3); k >= 0; k--) {
-            String atom = atom(asked, random.nextInt(3) == 0 ? "UVWa01" : "UVWXU");
+            String atom = atom(asked, random.nextInt(3) == 0 ? "UYZa01" : random.nextInt(3) == 0 ? "UVWXYZ" : "UVWXU");
             body.append(body.length() == 0 ? ':' : ',').append(atom);
             for (char c : atom.toCharArray()) {
                 if (c >= 'U' && c <= 'Z') {
