@@ -619,21 +619,18 @@ public final class RuleArena {
             if (take('~')) {
                 return readAtom(Literal.FAILS);
             }
-            int left = 0;
-            Literal atom = null;
             if (Term.isPlain(text[at]) && !Term.isLetter(text[at])) {
-                left = readTerm();
-            } else {
-                // Only what stands behind tells an atom from a term: the one is read as the other.
-                atom = readAtom(Literal.HOLDS);
-                if (atom == null) {
-                    return null;
-                }
-                left = atom.asTerm();
-                if (left == 0 || text[at] != '#') {
-                    return atom;
-                }
+                return readUnlike(readTerm());
             }
+            // Only a # behind it tells a term from an atom, so both are read as atoms.
+            Literal atom = readAtom(Literal.HOLDS);
+            if (atom == null || text[at] != '#' || atom.asTerm() == 0) {
+                return atom;
+            }
+            return readUnlike(atom.asTerm());
+        }
+
+        private Literal readUnlike(int left) {
             if (!take('#')) {
                 return null;
             }

@@ -179,6 +179,7 @@ public final class PromiseTest {
         faultDue("q:p.p:~q.", 4, 1);
         faultDue("p:~q.q:r.r:~p.", 4, 0);
         faultDue("p:q.q:r.r:~p.", 4, 2);
+        faultDue("q:p.p:~r.r:q.", 4, 1);
         faultDue("I(a):T(a).p:~p.", 4, 1);
         faultDue("I(a):T(a).", 5, 0);
         faultDue("p:E.q.I(a).I(b):~p.", 5, 2);
@@ -352,6 +353,14 @@ public final class PromiseTest {
                 + "z(U,V):z(U,W),~b(W),z(W,V).b(1).");
         due(7, "a circle of rules with #", () -> tests.facts('y', 2), 9);
         due(7, "a circle of rules with ~", () -> tests.facts('z', 2), 8);
+        RuleArena late = arena("p(V):v(Z),w(Z,V).v(1).w(1,a).w(2,b).w(1,c).");
+        due(7, "the first rule needs the later ones", () -> late.facts('p', 1), 2);
+        RuleArena tower = arena("x:~w.w:~v.v:~u.u:~t.t:~s.s:~r.r:~q.q:~p.p:~o.o:~n.n:~m.m:~l.l:~k.k:~j.j:~i.i:~h.h:~g.g:~f.f:~e.e:~d.d:~c."
+                + "c:~b.b:~a.a.");
+        for (char c = 'a'; c <= 'x'; c++) {
+            char name = c;
+            due(7, "24 layers: " + c, () -> tower.facts(name, 0), (c - 'a') % 2 == 0 ? 1 : 0);
+        }
         RuleArena twice = arena("p(0,0).p(0,1).p(f(0),0).p(f(1),0).q(U):p(U,U).r(U):p(f(U),U).s(f(U,U)):p(U,V).t(V):p(U,V),U#V.");
         due(7, "q(U):p(U,U)", () -> twice.facts('q', 1), 1);
         due(7, "r(U):p(f(U),U)", () -> twice.facts('r', 1), 1);
