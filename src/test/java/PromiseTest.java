@@ -1,80 +1,5 @@
 /** Each promise of the document by its number: ordinary inputs, the edges that it names, wrong inputs. */
-public final class PromiseTest {
-    private static final String NIM = "R(a).R(b).I(4).I(a).o(a,b).o(b,a).s(0,1).s(1,2).s(2,3).s(3,4)."
-            + "L(U,V):R(U),T(U),T(W),s(V,W).L(U,V):R(U),T(U),T(W),s(V,X),s(X,W).L(U,n):R(U),~T(U)."
-            + "N(V):D(U,V),s(V,W).N(V):T(U),o(U,V).E:T(0).G(U,8):R(U),~T(U).G(U,0):R(U),T(U).";
-    private static final String LINE = "s(0,1).s(1,2).s(2,3).s(3,4).s(4,5).s(5,6).s(6,7).s(7,8).s(8,9).";
-    private static int wrong = 0;
-    private static int checks = 0;
-
-    private interface Call {
-        Object of();
-    }
-
-    private static void due(int promise, String what, Call call, Object want) {
-        String got;
-        try {
-            got = String.valueOf(call.of());
-        } catch (RuntimeException e) {
-            got = e.getClass().getSimpleName();
-        }
-        checks++;
-        if (!got.equals(String.valueOf(want))) {
-            wrong++;
-            System.out.println("promise " + promise + ": " + what + " answered " + got + ", due is " + want);
-        }
-    }
-
-    private static long eight(String text) {
-        long eight = 0;
-        for (char c : text.toCharArray()) {
-            eight = eight << 8 | c;
-        }
-        return eight;
-    }
-
-    private static void put(RuleArena x, String text) {
-        for (int from = 0; from < text.length(); from += 8) {
-            String part = text.substring(from, Math.min(text.length(), from + 8));
-            due(2, "write of " + part, () -> x.write(eight(part)), true);
-        }
-    }
-
-    private static void loadDue(RuleArena x, String text, Object want) {
-        put(x, text);
-        due(4, "load of " + text, x::load, want);
-    }
-
-    private static RuleArena arena(String text) {
-        RuleArena x = new RuleArena();
-        put(x, text);
-        checks++;
-        try {
-            x.load();
-        } catch (RuntimeException e) {
-            wrong++;
-            System.out.println("load of " + text + " throws " + e + ", fault " + x.fault(0) + " at " + x.fault(1));
-        }
-        return x;
-    }
-
-    /** The text that letter() spells. */
-    private static String spell(RuleArena x, int what, int k) {
-        StringBuilder out = new StringBuilder();
-        for (int i = 0; x.letter(what, k, i) != RuleArena.NONE; i++) {
-            out.append((char) x.letter(what, k, i));
-        }
-        return out.toString();
-    }
-
-    private static String spellAll(RuleArena x, int what) {
-        StringBuilder out = new StringBuilder();
-        for (int k = 0; x.letter(what, k, 0) != RuleArena.NONE; k++) {
-            out.append(k == 0 ? "" : " ").append(spell(x, what, k));
-        }
-        return out.toString();
-    }
-
+public final class PromiseTest extends Checks {
     private static void newObject() {
         RuleArena x = new RuleArena();
         due(1, "NONE", () -> RuleArena.NONE, -1);
@@ -134,14 +59,8 @@ public final class PromiseTest {
         due(3, "the rules stay", () -> x.facts('q', 0), 1);
     }
 
-    private static void faultDue(String text, int kind, int place) {
-        RuleArena x = new RuleArena();
-        loadDue(x, text, kind == 1 ? "IllegalArgumentException" : "UnsupportedOperationException");
-        due(5, "fault(0) of " + text, () -> x.fault(0), kind);
-        due(5, "fault(1) of " + text, () -> x.fault(1), place);
-    }
-
     private static void textFaults() {
+        sentence("promises 4 and 5");
         Object[][] rows = {
             {"", 0}, {"P.", 0}, {" p.", 0}, {"U.", 0}, {"0.", 0}, {"~p.", 0}, {".", 0}, {"p", 1}, {"p(", 2}, {"p().", 2},
             {"p(a", 3}, {"p(a)", 4}, {"p(a,).", 4}, {"p(a b).", 3}, {"p(a,b,c,d).", 7}, {"p(f(a,b,c,d)).", 9},
@@ -159,6 +78,7 @@ public final class PromiseTest {
     }
 
     private static void ruleFaults() {
+        sentence("promises 4 and 5");
         faultDue("T(a).", 2, 0);
         faultDue("p.D(a,b).", 2, 1);
         faultDue("p:I(a).", 2, 0);
@@ -192,6 +112,7 @@ public final class PromiseTest {
     }
 
     private static void noFaults() {
+        sentence("promises 4 and 5");
         RuleArena x = new RuleArena();
         due(5, "without a load", () -> x.fault(0), 0);
         loadDue(x, "p(U):q(U),~p(a,b).p(a,b):q(a).", 2);
@@ -210,15 +131,8 @@ public final class PromiseTest {
         due(5, "fault(least)", () -> x.fault(Integer.MIN_VALUE), -1);
     }
 
-    private static String things(int n) {
-        StringBuilder out = new StringBuilder();
-        for (int k = 0; k < n; k++) {
-            out.append("k(").append("0123456789abcdefghij".charAt(k)).append(").");
-        }
-        return out.toString();
-    }
-
     private static void limits() {
+        sentence("promises 4 and 5");
         RuleArena x = arena("R(a).I(0).");
         x.audit();
         String all = "IllegalStateException";
@@ -612,9 +526,6 @@ public final class PromiseTest {
         auditingBeyond();
         weighing();
         choosing();
-        System.out.println(checks + " checks, " + wrong + " wrong");
-        if (wrong != 0) {
-            System.exit(1);
-        }
+        finish();
     }
 }
