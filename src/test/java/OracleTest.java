@@ -4,6 +4,13 @@ import java.util.TreeMap;
 
 /** The same calls on a RuleArena and on the Oracle, for many sheets: every answer must be the same. */
 public final class OracleTest {
+    /** Behind these the document leaves it free what an object answers. */
+    private static final int CALLS_MOST = 512;
+    /** What a load with its sheet, a step, and the last look at a game take at the most. */
+    private static final int LOAD_CALLS = 75;
+    private static final int STEP_CALLS = 50;
+    private static final int LAST_CALLS = 50;
+
     private static int wrong = 0;
     private static int calls = 0;
     private static final TreeMap<String, Integer> seen = new TreeMap<>();
@@ -54,25 +61,25 @@ public final class OracleTest {
         }
     }
 
-    private void lookAtAll() {
+    /** Some 40 calls, not all that there are, as an object has no more than 512 in all. */
+    private void look(Sheets sheets) {
         for (int what = -1; what <= 4; what++) {
             int w = what;
             due("fault(" + w + ")", () -> arena.fault(w), () -> oracle.fault(w));
             due("many(" + w + ")", () -> arena.many(w), () -> oracle.many(w));
             due("moves(" + w + ")", () -> arena.moves(w), () -> oracle.moves(w));
             due("goal(" + w + ")", () -> arena.goal(w), () -> oracle.goal(w));
-            for (int k = -1; k <= 5; k++) {
-                for (int i = -1; i <= 8; i++) {
-                    int at = k;
-                    int in = i;
-                    due("letter(" + w + ", " + k + ", " + i + ")", () -> arena.letter(w, at, in), () -> oracle.letter(w, at, in));
-                }
-            }
-            for (char c : "RITNDLGEpqrstghsmkloA ".toCharArray()) {
-                due("facts(" + c + ", " + w + ")", () -> arena.facts(c, w), () -> oracle.facts(c, w));
-            }
         }
         due("over", arena::over, oracle::over);
+        for (int time = 0; time < 8; time++) {
+            int w = sheets.below(6) - 1;
+            int k = sheets.below(7) - 1;
+            int i = sheets.below(10) - 1;
+            due("letter(" + w + ", " + k + ", " + i + ")", () -> arena.letter(w, k, i), () -> oracle.letter(w, k, i));
+            char c = "RITNDLGEpqrstghsmkloA ".charAt(sheets.below(22));
+            int terms = sheets.below(6) - 1;
+            due("facts(" + c + ", " + terms + ")", () -> arena.facts(c, terms), () -> oracle.facts(c, terms));
+        }
     }
 
     private void search() {
@@ -88,34 +95,38 @@ public final class OracleTest {
     }
 
     private void run(Sheets sheets) {
-        for (int load = 0; load < 3; load++) {
+        for (int load = 0; load < 3 && told.size() + LOAD_CALLS + LAST_CALLS <= CALLS_MOST; load++) {
             loaded = sheets.next();
             write(loaded);
             String result = due("load", arena::load, oracle::load);
             count("load " + (result.startsWith("throws") ? result + oracle.fault(0) : "well"));
-            lookAtAll();
+            look(sheets);
             if (sheets.below(3) == 0) {
                 search();
             }
-            for (int step = 0; step < 6; step++) {
-                int a = sheets.below(4) - (sheets.below(8) == 0 ? 1 : 0);
-                int b = sheets.below(12) == 0 ? 1 : 0;
-                int first = a >= Math.max(1, oracle.moves(0)) && sheets.below(8) > 0 ? 0 : a;
-                String played = due("play(" + first + ", " + b + ")", () -> arena.play(first, b), () -> oracle.play(first, b));
-                count("play " + (played.startsWith("throws") ? played : "well"));
-                if (sheets.below(4) == 0) {
-                    lookAtAll();
-                }
-                if (sheets.below(3) == 0) {
-                    weigh();
-                }
-                if (sheets.below(12) == 0) {
-                    due("restart", arena::restart, oracle::restart);
-                }
+            for (int step = 0; step < 6 && told.size() + STEP_CALLS + LAST_CALLS <= CALLS_MOST; step++) {
+                step(sheets);
             }
             search();
             weigh();
-            lookAtAll();
+            look(sheets);
+        }
+    }
+
+    private void step(Sheets sheets) {
+        int a = sheets.below(4) - (sheets.below(8) == 0 ? 1 : 0);
+        int b = sheets.below(12) == 0 ? 1 : 0;
+        int first = a >= Math.max(1, oracle.moves(0)) && sheets.below(8) > 0 ? 0 : a;
+        String played = due("play(" + first + ", " + b + ")", () -> arena.play(first, b), () -> oracle.play(first, b));
+        count("play " + (played.startsWith("throws") ? played : "well"));
+        if (sheets.below(4) == 0) {
+            look(sheets);
+        }
+        if (sheets.below(3) == 0) {
+            weigh();
+        }
+        if (sheets.below(12) == 0) {
+            due("restart", arena::restart, oracle::restart);
         }
     }
 
